@@ -106,7 +106,7 @@ public final class PackingCensus {
         int renamings = ground.renamings();
         for (int i = 0; i < listing.size(); i++) {
             int own = listing.symmetriesOf(i);
-            // As many layings are like an entry as the renamings make when those that agree on it count once.
+            // Each laying like the entry comes from as many renamings of it as its order says.
             sum += own > 0 ? renamings / own : 0;
         }
         return sum;

@@ -156,6 +156,8 @@ public final class PromiseTest {
         DUE.is("together(0, 0, 3)", x.together(0, 0, 3), PackingCensus.NONE);
         DUE.is("symmetries() on fewer points", x.symmetries(), 6);
         DUE.is("find() of the empty hand", x.find(), 0);
+        x.begin(6, 2, 1);
+        DUE.is("symmetries() right after another begin", x.symmetries(), 720);
     }
 
     private static void promise3Grow() {
