@@ -16,6 +16,27 @@ final class Due {
         }
     }
 
+    void handIs(PackingCensus x, int... masks) {
+        for (int j = 0; j < masks.length; j++) {
+            is("hand(" + j + ")", x.hand(j), masks[j]);
+        }
+        is("hand(" + masks.length + ")", x.hand(masks.length), PackingCensus.NONE);
+    }
+
+    void formIs(PackingCensus x, int... masks) {
+        for (int j = 0; j < masks.length; j++) {
+            is("formed(" + j + ")", x.formed(j), masks[j]);
+        }
+        is("formed(" + masks.length + ")", x.formed(masks.length), PackingCensus.NONE);
+    }
+
+    void entryIs(PackingCensus x, int i, int... masks) {
+        for (int j = 0; j < masks.length; j++) {
+            is("block(" + i + ", " + j + ")", x.block(i, j), masks[j]);
+        }
+        is("block(" + i + ", " + masks.length + ")", x.block(i, masks.length), PackingCensus.NONE);
+    }
+
     int wrong() {
         return wrong;
     }
