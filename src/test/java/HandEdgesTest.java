@@ -401,8 +401,8 @@ public final class HandEdgesTest {
         DUE.about("18: what is no longer there");
         PackingCensus x = Made.withHand(5, 3, 2, 28, 28, 7);
         DUE.formIs(x, 7, 7, 25);
-        x.drop(2);
-        DUE.formIs(x, 7, 7);
+        x.drop(0);
+        DUE.formIs(x, 7, 25);
         x.copy(0);
         DUE.formIs(x);
         x.put(25);
