@@ -20,6 +20,7 @@ public final class CensusEdgesTest {
         fisherIsOutOfReach();
         fractionBeginsACensus();
         beginComesInsteadOfTheOneBefore();
+        levelZeroIsTheSameAfterAnyLevel();
         beginAfterFullGrowsAgain();
         beginOfTheSameNumbersStartsAnew();
         growWithoutCensusIsNone();
@@ -221,6 +222,21 @@ public final class CensusEdgesTest {
         DUE.is("orbit(0, 3)", x.orbit(0, 3), NONE);
         DUE.is("grow()", x.grow(), 1);
         DUE.is("grow(), a block twice", x.grow(), 2);
+    }
+
+    private static void levelZeroIsTheSameAfterAnyLevel() {
+        DUE.about("2: level 0 after another census at some level");
+        for (int level = 0; level <= 10; level++) {
+            PackingCensus x = Made.census(6, 2, 1, level);
+            x.begin(6, 3, 2);
+            DUE.is("order(0)", x.order(0), 720);
+            for (int p = 0; p < 6; p++) {
+                DUE.is("orbit(0, " + p + ")", x.orbit(0, p), 0);
+                DUE.is("together(0, " + p + ", 0)", x.together(0, p, 0), 0);
+            }
+            DUE.is("grow()", x.grow(), 1);
+            DUE.is("orbit(0, 5) at level 1", x.orbit(0, 5), 3);
+        }
     }
 
     private static void beginAfterFullGrowsAgain() {

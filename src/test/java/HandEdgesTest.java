@@ -46,6 +46,7 @@ public final class HandEdgesTest {
         findOfAnotherLength();
         findOfNoPacking();
         findInAnEmptyList();
+        findOfAnEntryOfTheCensusBefore();
         findOfFirstAndLastEntry();
         findAtLevelTen();
         DUE.end();
@@ -492,6 +493,21 @@ public final class HandEdgesTest {
         DUE.is("find() of one", x.find(), NONE);
         x.put(62);
         DUE.is("find() of two", x.find(), NONE);
+    }
+
+    private static void findOfAnEntryOfTheCensusBefore() {
+        DUE.about("20: an entry of the census before alone");
+        for (int level = 2; level <= 4; level++) {
+            PackingCensus x = Made.census(4, 3, 2, level);
+            x.begin(4, 3, 1);
+            x.grow();
+            x.grow();
+            Made.put(x, 14, 13);
+            DUE.is("find() of 14 13 with lambda 1", x.find(), NONE);
+            x.drop(1);
+            x.put(14);
+            DUE.is("find() of 14 14 with lambda 1", x.find(), NONE);
+        }
     }
 
     private static void findOfFirstAndLastEntry() {

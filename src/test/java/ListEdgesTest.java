@@ -283,6 +283,11 @@ public final class ListEdgesTest {
         PackingCensus once = Made.census(3, 2, 2, 3);
         DUE.entryIs(once, 1, 3, 5, 6);
         DUE.is("design(1), all pairs once and lambda 2", once.design(1), false);
+        PackingCensus onePairLess = Made.census(5, 3, 2, 6);
+        DUE.entryIs(onePairLess, 0, 7, 11, 13, 22, 26, 28);
+        DUE.is("together(0, 0, 4)", onePairLess.together(0, 0, 4), 0);
+        DUE.is("design(0), all pairs twice but 0 and 4", onePairLess.design(0), false);
+        DUE.is("designs() then", onePairLess.designs(), 0);
     }
 
     private static void designsWithoutCensus() {
