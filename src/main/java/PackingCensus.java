@@ -617,7 +617,7 @@ public final class PackingCensus {
 
         private void makeBest(int b, int number) {
             best[b] = number;
-            for (int n = b + 1; n < ground.kinds(); n++) {
+            for (int n = b + 1; n < MOST_KINDS; n++) {
                 best[n] = -1;
             }
             bestRenamings = 0;
